@@ -1,5 +1,3 @@
-import java.util.Arrays;
-
 /** A postman who ends the letters that he carries: rows, texts, posts, deeds, and what may be asked of them. */
 public final class LetterEnds {
     public static final int BAD = -1, FULL = -2, FINDING = -3, STATE = -4, SPENT = -6, NONE = -9;
@@ -771,7 +769,9 @@ public final class LetterEnds {
                 return;
             }
             size = n;
-            Arrays.fill(places, 0, n, v);
+            for (int i = 0; i < n; i++) {
+                places[i] = v;
+            }
         }
 
         void lieAs(int[] values, int n) {
@@ -1194,7 +1194,8 @@ public final class LetterEnds {
             goalHouse = house;
             goalBond = bond;
             int left = road.allLetters() & ~from.carried;
-            for (int n = 0; n <= Integer.bitCount(left); n++) {
+            int many = Integer.bitCount(left);
+            for (int n = 0; n <= many; n++) {
                 if (reaches(0, n, left, from.mood, from.stand, from.bonds[house])) {
                     return n;
                 }
@@ -1342,7 +1343,9 @@ public final class LetterEnds {
         }
 
         int greatestPart(int kind, int wordsSet, int mood) {
-            Arrays.fill(parts, 0);
+            for (int warm = 0; warm <= WARMEST; warm++) {
+                parts[warm] = 0;
+            }
             int greatest = 0;
             for (int words = 0; words <= WARMEST; words++) {
                 if ((wordsSet >> words & 1) != 0) {
