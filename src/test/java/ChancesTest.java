@@ -127,6 +127,9 @@ public final class ChancesTest {
         Check.due("lots(1, 1) again, mood", x.count(4), mood);
         Check.due("lots are undone", x.undo(0), 2);
         Check.due("lots are undone, bonds", x.count(8), 33);
+        LetterEnds one = Check.posted("p51h10t09");
+        Check.due("lots(1, 1) of one letter", one.lots(1, 1), 14);
+        Check.due("lots(1, 1) of one letter, carried", one.count(7), 1);
     }
 
     /** A seed whose first number has this choice; the number itself is worked out here. */

@@ -103,6 +103,8 @@ public final class CluesTest {
         dueAll("a mood of 10", x, 0, 0, Check.UNLIKE);
         Check.rowOf(x, 0, 1, 2, -1, 2);
         dueAll("a mood of -1", x, 0, 0, Check.UNLIKE);
+        Check.rowOf(x, 0, 10, 2, 1, 2);
+        dueAll("a first mood of 10", x, 0, 0, Check.UNLIKE);
         Check.rowOf(x, 0, 1, 10);
         dueAll("ended at 10", x, 0, 0, Check.UNLIKE);
         Check.rowOf(x, 0, 1, -1);

@@ -130,7 +130,12 @@ public final class DeedsTest {
         Check.dueRefused("full, day()", x, () -> x.day(), Check.FULL);
         Check.dueRefused("full, lots(1, 1)", x, () -> x.lots(1, 1), Check.FULL);
         Check.due("undo(39)", x.undo(39), 1);
-        Check.due("again one more", x.bribe(9), 9);
+        Check.due("a letter is the 40th", x.carry(1), 5);
+        Check.due("undo(39), a letter", x.undo(39), 1);
+        Check.due("a day is the 40th", x.day(), 1);
+        Check.dueRefused("full by a day, day()", x, () -> x.day(), Check.FULL);
+        Check.due("undo(39), a day", x.undo(39), 1);
+        Check.due("a bribe is the 40th", x.bribe(9), 9);
         Check.dueRefused("full, bribe(1) at 9", x, () -> x.bribe(1), Check.STATE);
     }
 

@@ -96,6 +96,8 @@ public final class RowsTest {
         Check.dueFinding("copy(0, 0, 1, -1, 1)", x, () -> x.copy(0, 0, 1, -1, 1), Check.BEYOND);
         Check.dueFinding("copy(0, 0, 1, 0, 4)", x, () -> x.copy(0, 0, 1, 0, 4), Check.BEYOND);
         Check.dueFinding("copy(1, 0, 0, 0, 4)", x, () -> x.copy(1, 0, 0, 0, 4), Check.BEYOND);
+        Check.dueFinding("copy(0, 4, 1, 0, 2)", x, () -> x.copy(0, 4, 1, 0, 2), Check.BEYOND);
+        Check.dueFinding("copy(0, 0, 1, 2, 2)", x, () -> x.copy(0, 0, 1, 2, 2), Check.BEYOND);
         Check.dueFinding("copy(0, 1, 1, 1, most)", x, () -> x.copy(0, 1, 1, 1, MOST), Check.BEYOND);
         Check.dueFinding("copy(0, most, 1, 0, 1)", x, () -> x.copy(0, MOST, 1, 0, 1), Check.BEYOND);
         Check.dueFinding("copy(2, 0, 1, 0, 1)", x, () -> x.copy(2, 0, 1, 0, 1), Check.NOTHING);
