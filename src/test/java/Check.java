@@ -6,6 +6,8 @@ final class Check {
     /** The post of the shared tests: three houses, a letter of each kind. */
     static final String SIX = "p50 h10h03h20 l17t12b24v03k21f26";
 
+    static final int LEAST = Integer.MIN_VALUE, MOST = Integer.MAX_VALUE;
+
     private static int wrong;
     private static int asked;
 
@@ -18,6 +20,14 @@ final class Check {
             wrong++;
             System.out.println(call + " answered " + got + ", due is " + want);
         }
+    }
+
+    static int wrong() {
+        return wrong;
+    }
+
+    static int compared() {
+        return asked;
     }
 
     /** An answer that tells by asked(). */
@@ -58,6 +68,22 @@ final class Check {
         due(call + ", finding()", x.finding(), latest);
         due(call + ", all findings()", allFindings(x), all);
         dueUnchanged(call, x, digest, told, up, low);
+    }
+
+    /** BAD just outside these bounds and far from them, answered otherwise at both of them. */
+    static void dueBounds(String call, LetterEnds x, int low, int high, java.util.function.IntUnaryOperator answer) {
+        for (int v : new int[] {low - 1, high + 1, LEAST, MOST}) {
+            dueRefused(call + " for " + v, x, () -> answer.applyAsInt(v), BAD);
+        }
+        for (int v : new int[] {low, high}) {
+            due(call + " for " + v + " is BAD", answer.applyAsInt(v) == BAD ? 1 : 0, 0);
+        }
+    }
+
+    static void dueFindings(String call, LetterEnds x, int which, java.util.function.IntUnaryOperator answer, int... values) {
+        for (int v : values) {
+            dueFinding(call + " for " + v, x, () -> answer.applyAsInt(v), which);
+        }
     }
 
     private static void dueUnchanged(String call, LetterEnds x, long digest, int told, long up, long low) {

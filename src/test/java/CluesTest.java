@@ -5,6 +5,7 @@ public final class CluesTest {
         kinds();
         test();
         refused();
+        unlike();
         Check.finish();
     }
 
@@ -91,6 +92,11 @@ public final class CluesTest {
         dueAll("row 6", x, 0, 6, Check.BAD);
         dueAll("row -1", x, 0, -1, Check.BAD);
         dueAll("a missing row", x, 0, 0, Check.NOTHING);
+        notAsManyAsDue();
+    }
+
+    private static void notAsManyAsDue() {
+        LetterEnds x = Check.posted(Check.SIX);
         Check.rowOf(x, 0, 77);
         dueAll("half a pair", x, 0, 0, Check.SIZE);
         Check.rowOf(x, 0, 1, 2, 3);
@@ -99,6 +105,10 @@ public final class CluesTest {
         dueAll("seventeen", x, 0, 0, Check.SIZE);
         x.row(0, 18);
         dueAll("nine pairs", x, 0, 0, Check.SIZE);
+    }
+
+    private static void unlike() {
+        LetterEnds x = Check.posted(Check.SIX);
         Check.rowOf(x, 0, 1, 2, 10, 2);
         dueAll("a mood of 10", x, 0, 0, Check.UNLIKE);
         Check.rowOf(x, 0, 1, 2, -1, 2);

@@ -8,9 +8,9 @@ public final class EndsTest {
     }
 
     private static void ends() {
-        LetterEnds x = Check.posted(Check.SIX);
-        long digest = x.digest();
         for (int words = 0; words <= 9; words++) {
+            LetterEnds x = Check.posted(Check.SIX);
+            long digest = x.digest();
             for (int mood = 0; mood <= 9; mood++) {
                 int half = (words + mood) / 2;
                 int both = words + mood > 9 ? 9 : words + mood;
@@ -19,8 +19,9 @@ public final class EndsTest {
                     Check.due("ends(" + l + ", " + words + ", " + mood + ")", x.ends(l, words, mood), want[l]);
                 }
             }
+            Check.due("ends() is aside", x.digest(), digest);
         }
-        Check.due("ends() is aside", x.digest(), digest);
+        LetterEnds x = Check.posted(Check.SIX);
         Check.dueRefused("ends(6, 0, 0)", x, () -> x.ends(6, 0, 0), Check.BAD);
         Check.dueRefused("ends(-1, 0, 0)", x, () -> x.ends(-1, 0, 0), Check.BAD);
         Check.dueRefused("ends(0, 10, 0)", x, () -> x.ends(0, 10, 0), Check.BAD);
