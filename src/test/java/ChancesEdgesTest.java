@@ -89,6 +89,20 @@ public final class ChancesEdgesTest {
         Check.duePart("9, then 6, odds(0, 15, 0)", x, x.odds(0, 15, 0), 1, 1);
         Check.due("they are not carried", x.count(7), 0);
         Check.due("mood", x.count(4), 5);
+        onTheWay("p50h00h00h00f20f00", 3, 4);
+        onTheWay("p51h00h00h00f20f00", 5, 10);
+        onTheWay("p52h00h00h00f20f00", 7, 16);
+    }
+
+    /** A letter two houses off, then one back where he began. */
+    private static void onTheWay(String signs, int there, int both) {
+        LetterEnds x = Check.posted(signs);
+        Check.rowOf(x, 0, 0);
+        Check.duePart("mid in '" + signs + "'", x, x.mid(0, 0), there, 1);
+        Check.rowOf(x, 0, 0, 1);
+        Check.duePart("mid of both in '" + signs + "'", x, x.mid(0, 0), both, 1);
+        Check.duePart("odds of both in '" + signs + "'", x, x.odds(0, both, 0), 1, 1);
+        Check.duePart("odds of more in '" + signs + "'", x, x.odds(0, both + 1, 0), 0, 1);
     }
 
     private static void noneToSix() {

@@ -116,6 +116,7 @@ public final class CluesEdgesTest {
         }
         x.row(0, 18);
         Check.dueFinding("nine pairs", x, () -> clue.by(x, 5, 0), Check.SIZE);
+        nothingBehindItsEnd(clue);
     }
 
     private static void figuresOfPairs(Clue clue) {
@@ -154,6 +155,17 @@ public final class CluesEdgesTest {
             Check.rowOf(x, 0, 0, 0, 9, 9, 5, v);
             Check.dueFinding("the last of three ended at " + v, x, () -> clue.by(x, 0, 0), Check.UNLIKE);
         }
+    }
+
+    /** A ROW made smaller has no more of what was there. */
+    private static void nothingBehindItsEnd(Clue clue) {
+        LetterEnds x = Check.posted(SIX);
+        Check.rowOf(x, 0, 0, 6, 77, 77, 1, 0);
+        x.row(0, 2);
+        x.lay(0, 1, 6);
+        Check.due("6 in mood 0, behind a greater row", clue.by(x, 5, 0) >= 0 ? 1 : 0, 1);
+        x.row(0, 0);
+        Check.due("none, behind a greater row", clue.by(x, 5, 0) >= 0 ? 1 : 0, 1);
     }
 
     private static void findingsInOrder(Clue clue) {

@@ -293,6 +293,9 @@ public final class DeedsEdgesTest {
         Check.dueBounds("carry(l)", x, 0, 5, l -> x.carry(l));
         LetterEnds one = Check.posted("p51h00h00l00");
         Check.dueRefused("of one letter, carry(1)", one, () -> one.carry(1), Check.BAD);
+        one.carry(0);
+        // a set of bits would take 32 for 0
+        Check.dueRefused("letter 0 carried, carry(32)", one, () -> one.carry(32), Check.BAD);
         LetterEnds none = new LetterEnds();
         Check.dueRefused("of none, carry(0)", none, () -> none.carry(0), Check.BAD);
     }
@@ -552,37 +555,51 @@ public final class DeedsEdgesTest {
     }
 
     private static void onAsItWasKept() {
-        long[] digests = new long[9];
-        LetterEnds x = done(digests);
-        x.undo(4);
+        LetterEnds x = done(new long[9]);
+        x.undo(5);
         x.keep(1);
-        long kept = x.digest();
-        x.undo(1);
+        long[] digests = new long[6];
+        for (int n = 5; n >= 0; n--) {
+            x.undo(n);
+            digests[n] = x.digest();
+        }
+        otherDeeds(x);
+        Check.due("on(1)", x.on(1), 5);
+        Check.due("on(1), digest()", x.digest(), digests[5]);
+        // its own DEEDS are undone, not those done since
+        for (int n = 5; n >= 0; n--) {
+            Check.due("undo(" + n + ")", x.undo(n), n == 5 ? 0 : 1);
+            Check.due("undo(" + n + "), digest()", x.digest(), digests[n]);
+        }
+        otherDeeds(x);
+        Check.due("on(1) once more", x.on(1), 5);
+        Check.due("on(1) once more, digest()", x.digest(), digests[5]);
+        Check.due("it goes on", x.carry(0), 9);
+        Check.due("its next deed", x.count(3), 6);
+        endedAsItWasKept();
+    }
+
+    private static void otherDeeds(LetterEnds x) {
         x.day();
         x.carry(2);
         x.weather(1);
         x.bribe(1);
-        Check.due("on(1)", x.on(1), 4);
-        Check.due("on(1), digest()", x.digest(), kept);
-        Check.due("on(1), where he stands", x.count(6), 1);
-        Check.dueAsked("on(1), letter(0, 3)", x, x.letter(0, 3), 9);
-        Check.dueAsked("on(1), letter(1, 3)", x, x.letter(1, 3), 9);
-        onGoesOn(x, kept);
+        x.carry(0);
+        x.day();
     }
 
-    /** Its own DEEDS are undone, not those done since; what is kept stays as it was, whatever goes on. */
-    private static void onGoesOn(LetterEnds x, long kept) {
-        Check.due("undo(3)", x.undo(3), 1);
-        Check.due("without the last one, where he stands", x.count(6), 2);
-        Check.due("weather", x.count(5), 2);
-        Check.due("undo(1)", x.undo(1), 2);
-        Check.due("weather", x.count(5), 0);
-        Check.due("carried", x.count(7), 1);
+    private static void endedAsItWasKept() {
+        LetterEnds x = Check.posted("p51h10h10h10v20");
+        x.carry(0);
+        x.keep(0);
         x.day();
-        Check.due("on(1) once more", x.on(1), 4);
-        Check.due("on(1) once more, digest()", x.digest(), kept);
-        Check.due("it goes on", x.day(), 2);
-        Check.due("its next deed", x.count(3), 5);
+        x.bribe(3);
+        Check.due("on another day it ends at 8", x.carry(0), 8);
+        x.day();
+        x.on(0);
+        Check.dueAsked("it ended at 5", x, x.letter(0, 3), 5);
+        Check.due("where he stands", x.count(6), 2);
+        Check.due("the day", x.count(2), 0);
     }
 
     private static void onTellsHowMany() {
